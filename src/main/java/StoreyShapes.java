@@ -335,7 +335,7 @@ public final class StoreyShapes {
         }
     }
 
-    // Takes longs, so that a place far off does not wrap round into the bounds.
+    // Takes longs, so that the sums of a move cannot wrap round.
     private static void checkPlace(long x, long y) {
         if (x < -MOST_COORDINATE || x > MOST_COORDINATE || y < -MOST_COORDINATE || y > MOST_COORDINATE) {
             throw new IllegalArgumentException("a coordinate is -1000 .. 1000");
@@ -431,14 +431,13 @@ public final class StoreyShapes {
     }
 
     private long netLength(int wall) {
-        return (long) walls.length(wall)
-                + joinAt(wall, walls.x0[wall], walls.y0[wall])
-                + joinAt(wall, walls.x1[wall], walls.y1[wall]);
+        int before = walls.leastAcross(wall, walls.x0[wall], walls.y0[wall]);
+        int behind = walls.leastAcross(wall, walls.x1[wall], walls.y1[wall]);
+        return (long) walls.length(wall) + gainByJoin(wall, before) + gainByJoin(wall, behind);
     }
 
-    // How much longer the wall is by the join at its end there.
-    private int joinAt(int wall, int x, int y) {
-        int other = walls.leastAcross(wall, x, y);
+    // How much longer the wall is at the end where it meets the other one; less than 0 if it is shorter.
+    private int gainByJoin(int wall, int other) {
         if (other == NONE) {
             return 0;
         }

@@ -3,6 +3,7 @@ public final class CopyTest {
     public static void main(String[] args) {
         copies();
         ownThings();
+        undoneThingsAreNotCopied();
         refused();
         tooManyWalls();
         tooManyOpenings();
@@ -25,7 +26,7 @@ public final class CopyTest {
         d.wall(0, 0, 0, 0, 100, 0);
         d.wall(1, 0, 0, 0, 50, 0);
         d.wall(0, 1, 0, 0, 0, 80);
-        d.wall(0, 1, 100, 0, 100, 80);
+        d.wall(0, 1, 100, 80, 100, 0);
         d.opening(3, 1, 2);
         d.opening(2, 3, 4);
         d.opening(0, 5, 6);
@@ -37,7 +38,7 @@ public final class CopyTest {
         Check.same("11: one act", d.acts(0), done + 1);
         Check.same("11: walls", d.many(2), 6);
         Check.same("11: openings", d.many(3), 8);
-        long[][] walls = {{1, 0, 0, 0, 100, 0}, {1, 1, 100, 0, 100, 80}};
+        long[][] walls = {{1, 0, 0, 0, 100, 0}, {1, 1, 100, 80, 100, 0}};
         for (int i = 0; i < walls.length; i++) {
             for (int what = 0; what < walls[i].length; what++) {
                 Check.same("11: new wall " + i + ", " + what, d.wallAt(4 + i, what), walls[i][what]);
@@ -83,6 +84,22 @@ public final class CopyTest {
         Check.same("11: and moved again", d.wallAt(1, 2), 1);
     }
 
+    private static void undoneThingsAreNotCopied() {
+        StoreyShapes d = started();
+        d.wall(0, 0, 0, 0, 100, 0);
+        d.wall(0, 0, 0, 9, 100, 9);
+        d.opening(1, 5, 6);
+        d.opening(0, 7, 8);
+        d.wall(0, 0, 0, 20, 100, 20);
+        d.undo();
+        d.undo();
+        Check.same("11: without the undone wall", d.copy(0, 1), 2);
+        Check.same("11: without the undone opening", d.many(3), 2);
+        Check.same("11: the opening is the second wall's", d.openingAt(1, 0), 3);
+        Check.same("11: and begins where it did", d.openingAt(1, 1), 5);
+        Check.same("11: the first wall has none", d.wallAt(2, 9), 0);
+    }
+
     private static void refused() {
         StoreyShapes d = started();
         d.wall(0, 0, 0, 0, 100, 0);
@@ -126,6 +143,12 @@ public final class CopyTest {
         Check.state("11: 62 openings", d, () -> d.copy(0, 1));
         d.undo();
         Check.same("11: 60 openings", d.copy(0, 1), 2);
+        Check.same("11: a storey without walls", d.copy(2, 1), 0);
+        d.wall(2, 0, 0, 0, 100, 0);
+        Check.same("11: a wall without openings", d.copy(2, 1), 1);
+        d.undo();
+        d.undo();
+        d.undo();
         Check.same("11: the last one", d.openingAt(59, 0), 3);
         Check.same("11: where it begins", d.openingAt(59, 1), 29);
         d.undo();
