@@ -9,8 +9,8 @@ public final class BodyTest {
         Check.end("BodyTest");
     }
 
-    private static StoreyShapes started() {
-        StoreyShapes d = new StoreyShapes();
+    private static Subject started() {
+        Subject d = new Subject();
         d.storey(0);
         d.storey(100);
         d.type(10);
@@ -18,12 +18,12 @@ public final class BodyTest {
         return d;
     }
 
-    private static void at(String what, StoreyShapes d, int x, int y, int due) {
+    private static void at(String what, Subject d, int x, int y, int due) {
         Check.same("20: " + what, d.body(0, x, y, 0), due);
     }
 
     private static void alongX() {
-        StoreyShapes d = started();
+        Subject d = started();
         d.wall(0, 0, 40, 7, 10, 7);
         at("on the line", d, 20, 7, 0);
         at("first place", d, 40, 7, 0);
@@ -51,7 +51,7 @@ public final class BodyTest {
     }
 
     private static void alongY() {
-        StoreyShapes d = started();
+        Subject d = started();
         d.wall(0, 0, -3, -20, -3, -5);
         at("first place", d, -3, -20, 0);
         at("second place", d, -3, -5, 0);
@@ -65,7 +65,7 @@ public final class BodyTest {
     }
 
     private static void theKth() {
-        StoreyShapes d = started();
+        Subject d = started();
         d.wall(0, 0, 0, 0, 50, 0);
         d.wall(1, 0, 0, 0, 50, 0);
         d.wall(0, 0, 0, 30, 50, 30);
@@ -85,7 +85,7 @@ public final class BodyTest {
     }
 
     private static void atTheBounds() {
-        StoreyShapes d = started();
+        Subject d = started();
         d.wall(0, 0, 1000, 1000, 1000, -1000);
         d.wall(0, 0, -1000, -1000, 1000, -1000);
         Check.same("20: corner", d.body(0, 1000, 1000, 0), 0);
@@ -95,7 +95,7 @@ public final class BodyTest {
     }
 
     private static void refused() {
-        StoreyShapes d = started();
+        Subject d = started();
         d.wall(0, 0, 1000, 1000, 1000, -1000);
         Check.argument("20: x high", d, () -> d.body(0, 1001, 0, 0));
         Check.argument("20: x low", d, () -> d.body(0, -1001, 0, 0));

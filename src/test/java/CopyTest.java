@@ -11,8 +11,8 @@ public final class CopyTest {
         Check.end("CopyTest");
     }
 
-    private static StoreyShapes started() {
-        StoreyShapes d = new StoreyShapes();
+    private static Subject started() {
+        Subject d = new Subject();
         d.storey(0);
         d.storey(100);
         d.storey(400);
@@ -22,7 +22,7 @@ public final class CopyTest {
     }
 
     private static void copies() {
-        StoreyShapes d = started();
+        Subject d = started();
         d.wall(0, 0, 0, 0, 100, 0);
         d.wall(1, 0, 0, 0, 50, 0);
         d.wall(0, 1, 0, 0, 0, 80);
@@ -59,7 +59,7 @@ public final class CopyTest {
     }
 
     private static void ownThings() {
-        StoreyShapes d = started();
+        Subject d = started();
         d.wall(0, 0, 0, 0, 100, 0);
         d.opening(0, 5, 6);
         Check.same("11: none to copy", d.copy(2, 0), 0);
@@ -85,7 +85,7 @@ public final class CopyTest {
     }
 
     private static void undoneThingsAreNotCopied() {
-        StoreyShapes d = started();
+        Subject d = started();
         d.wall(0, 0, 0, 0, 100, 0);
         d.wall(0, 0, 0, 9, 100, 9);
         d.opening(1, 5, 6);
@@ -101,7 +101,7 @@ public final class CopyTest {
     }
 
     private static void refused() {
-        StoreyShapes d = started();
+        Subject d = started();
         d.wall(0, 0, 0, 0, 100, 0);
         Check.argument("11: onto itself", d, () -> d.copy(0, 0));
         Check.argument("11: from 3", d, () -> d.copy(3, 0));
@@ -111,7 +111,7 @@ public final class CopyTest {
     }
 
     private static void tooManyWalls() {
-        StoreyShapes d = started();
+        Subject d = started();
         for (int w = 0; w < 20; w++) {
             d.wall(0, 0, 0, w, 10, w);
         }
@@ -133,7 +133,7 @@ public final class CopyTest {
     }
 
     private static void tooManyOpenings() {
-        StoreyShapes d = started();
+        Subject d = started();
         d.wall(0, 0, 0, 0, 100, 0);
         d.wall(0, 0, 0, 9, 100, 9);
         for (int o = 0; o < 30; o++) {
@@ -161,7 +161,7 @@ public final class CopyTest {
     }
 
     private static void manyActs() {
-        StoreyShapes d = started();
+        Subject d = started();
         d.wall(0, 0, 0, 0, 100, 0);
         Check.fillHistory(d);
         Check.state("11: 200 acts", d, () -> d.copy(0, 1));

@@ -57,7 +57,7 @@ public final class FaceTest {
     }
 
     private static void newObject() {
-        StoreyShapes d = new StoreyShapes();
+        Subject d = new Subject();
         for (int what = 0; what <= 3; what++) {
             Check.same("1: many " + what, d.many(what), 0);
         }
@@ -71,7 +71,7 @@ public final class FaceTest {
         Check.argument("1: no opening", d, () -> d.openingAt(0, 0));
         Check.argument("1: no body", d, () -> d.body(0, 0, 0, 0));
 
-        StoreyShapes other = new StoreyShapes();
+        Subject other = new Subject();
         other.storey(0);
         Check.same("1: objects share nothing", d.many(0), 0);
     }

@@ -1,4 +1,5 @@
 import java.util.ArrayList;
+import java.util.Arrays;
 import java.util.List;
 
 /**
@@ -6,8 +7,9 @@ import java.util.List;
  * The runs come from a counter that is written here, so they are the same each time.
  */
 public final class ModelTest {
-    private static final int RUNS = 3000;
-    private static final int CALLS = 500;
+    private static final int RUNS = 2000;
+    private static final String[] ACTS =
+            {"storey", "level", "type", "thickness", "wall", "move", "retype", "remove", "opening", "copy"};
     private static final int ARGUMENT = -777001;
     private static final int STATE = -777002;
 
@@ -302,20 +304,9 @@ public final class ModelTest {
         }
     }
 
-    private static int called(StoreyShapes x, int kind, int[] a) {
+    private static long called(Subject x, String name, int... a) {
         try {
-            switch (kind) {
-                case 0: return x.storey(a[0]);
-                case 1: x.level(a[0], a[1]); return 0;
-                case 2: return x.type(a[0]);
-                case 3: x.thickness(a[0], a[1]); return 0;
-                case 4: return x.wall(a[0], a[1], a[2], a[3], a[4], a[5]);
-                case 5: x.move(a[0], a[1], a[2]); return 0;
-                case 6: x.retype(a[0], a[1]); return 0;
-                case 7: x.remove(a[0]); return 0;
-                case 8: return x.opening(a[0], a[1], a[2]);
-                default: return x.copy(a[0], a[1]);
-            }
+            return x.call(name, a);
         } catch (IllegalArgumentException e) {
             return ARGUMENT;
         } catch (IllegalStateException e) {
@@ -348,19 +339,6 @@ public final class ModelTest {
             case 7: return new int[] {wall};
             case 8: return new int[] {wall, about(0, 60), about(1, 20)};
             default: return new int[] {storey, about(0, d.levels.size() - 1)};
-        }
-    }
-
-    private static long asked(StoreyShapes x, String what, int a, int b) {
-        try {
-            switch (what) {
-                case "storeyAt": return x.storeyAt(a, b);
-                case "typeAt": return x.typeAt(a, b);
-                case "wallAt": return x.wallAt(a, b);
-                default: return x.openingAt(a, b);
-            }
-        } catch (IllegalArgumentException e) {
-            return ARGUMENT;
         }
     }
 
@@ -411,118 +389,132 @@ public final class ModelTest {
         return new long[] {a.wall(), a.at(), a.width()}[what];
     }
 
-    private static void compareOne(String where, StoreyShapes x, Drawing d) {
-        int a;
-        int b;
-        switch (below(5)) {
-            case 0:
-                a = about(0, d.levels.size() - 1);
-                b = about(0, 3);
-                Check.same(where + "storeyAt " + a + " " + b, asked(x, "storeyAt", a, b), storeyDue(d, a, b));
-                break;
-            case 1:
-                a = about(0, d.thicknesses.size() - 1);
-                b = about(0, 2);
-                Check.same(where + "typeAt " + a + " " + b, asked(x, "typeAt", a, b), typeDue(d, a, b));
-                break;
-            case 2:
-                a = about(0, d.walls.size() - 1);
-                b = about(0, 9);
-                Check.same(where + "wallAt " + a + " " + b, asked(x, "wallAt", a, b), wallDue(d, a, b));
-                break;
-            case 3:
-                a = about(0, d.openings.size() - 1);
-                b = about(0, 2);
-                Check.same(where + "openingAt " + a + " " + b, asked(x, "openingAt", a, b), openingDue(d, a, b));
-                break;
-            default:
-                compareBody(where, x, d);
-                break;
+    private static long actsDue(Model m, int what) {
+        return what == 0 ? m.before.size() : what == 1 ? m.after.size() : ARGUMENT;
+    }
+
+    private static long manyDue(Drawing d, int what) {
+        switch (what) {
+            case 0: return d.levels.size();
+            case 1: return d.thicknesses.size();
+            case 2: return d.walls.size();
+            case 3: return d.openings.size();
+            default: return ARGUMENT;
         }
     }
 
-    private static void compareBody(String where, StoreyShapes x, Drawing d) {
-        int s = about(0, d.levels.size() - 1);
-        int px = about(-80, 80);
-        int py = about(-80, 80);
-        int k = about(0, 3);
-        long got;
-        try {
-            got = x.body(s, px, py, k);
-        } catch (IllegalArgumentException e) {
-            got = ARGUMENT;
+    private static long bodyDue(Drawing d, int s, int x, int y, int k) {
+        if (d.noStorey(s) || k < 0 || Math.abs((long) x) > 1000 || Math.abs((long) y) > 1000) {
+            return ARGUMENT;
         }
-        long due = StoreyShapes.NONE;
         int seen = 0;
         for (int w = 0; w < d.walls.size(); w++) {
             Wall a = d.walls.get(w);
-            if (a.there() && a.storey() == s && d.body(a, px, py) && seen++ == k) {
-                due = w;
+            if (a.there() && a.storey() == s && d.body(a, x, y) && seen++ == k) {
+                return w;
             }
         }
-        if (d.noStorey(s) || k < 0 || Math.abs((long) px) > 1000 || Math.abs((long) py) > 1000) {
-            due = ARGUMENT;
-        }
-        Check.same(where + "body " + s + " " + px + " " + py + " " + k, got, due);
+        return StoreyShapes.NONE;
     }
 
-    private static void compareAll(String where, StoreyShapes x, Drawing d) {
-        for (int s = 0; s < d.levels.size(); s++) {
-            for (int what = 0; what <= 3; what++) {
-                Check.same(where + "storeyAt " + s + " " + what, x.storeyAt(s, what), storeyDue(d, s, what));
-            }
-        }
-        for (int t = 0; t < d.thicknesses.size(); t++) {
-            for (int what = 0; what <= 2; what++) {
-                Check.same(where + "typeAt " + t + " " + what, x.typeAt(t, what), typeDue(d, t, what));
-            }
-        }
-        for (int w = 0; w < d.walls.size(); w++) {
-            for (int what = 0; what <= 9; what++) {
-                Check.same(where + "wallAt " + w + " " + what, asked(x, "wallAt", w, what), wallDue(d, w, what));
-            }
-        }
-        for (int o = 0; o < d.openings.size(); o++) {
-            for (int what = 0; what <= 2; what++) {
-                Check.same(where + "openingAt " + o + " " + what, asked(x, "openingAt", o, what), openingDue(d, o, what));
-            }
+    private static long due(Model m, String name, int[] a) {
+        switch (name) {
+            case "acts": return actsDue(m, a[0]);
+            case "many": return manyDue(m.now, a[0]);
+            case "storeyAt": return storeyDue(m.now, a[0], a[1]);
+            case "typeAt": return typeDue(m.now, a[0], a[1]);
+            case "wallAt": return wallDue(m.now, a[0], a[1]);
+            case "openingAt": return openingDue(m.now, a[0], a[1]);
+            default: return bodyDue(m.now, a[0], a[1], a[2], a[3]);
         }
     }
 
-    private static void compareCounts(String where, StoreyShapes x, Model m) {
-        Check.same(where + "done", x.acts(0), m.before.size());
-        Check.same(where + "undone", x.acts(1), m.after.size());
-        Check.same(where + "storeys", x.many(0), m.now.levels.size());
-        Check.same(where + "types", x.many(1), m.now.thicknesses.size());
-        Check.same(where + "walls", x.many(2), m.now.walls.size());
-        Check.same(where + "openings", x.many(3), m.now.openings.size());
+    private static void compare(String where, Subject x, Model m, String name, int... a) {
+        Check.same(where + name + Arrays.toString(a), called(x, name, a), due(m, name, a));
     }
 
-    /** How often of a hundred calls an act is undone differs by run, so that some runs come to 200 acts. */
+    private static void compareOne(String where, Subject x, Model m) {
+        Drawing d = m.now;
+        switch (below(7)) {
+            case 0:
+                compare(where, x, m, "storeyAt", about(0, d.levels.size() - 1), about(0, 3));
+                break;
+            case 1:
+                compare(where, x, m, "typeAt", about(0, d.thicknesses.size() - 1), about(0, 2));
+                break;
+            case 2:
+                compare(where, x, m, "wallAt", about(0, d.walls.size() - 1), about(0, 9));
+                break;
+            case 3:
+                compare(where, x, m, "openingAt", about(0, d.openings.size() - 1), about(0, 2));
+                break;
+            case 4:
+                compare(where, x, m, "acts", about(0, 1));
+                break;
+            case 5:
+                compare(where, x, m, "many", about(0, 3));
+                break;
+            default:
+                compare(where, x, m, "body", about(0, d.levels.size() - 1), about(-80, 80), about(-80, 80), about(0, 3));
+                break;
+        }
+    }
+
+    private static void compareRows(String where, Subject x, Model m, String name, int many, int mostWhat) {
+        for (int n = 0; n < many; n++) {
+            for (int what = 0; what <= mostWhat; what++) {
+                compare(where, x, m, name, n, what);
+            }
+        }
+    }
+
+    private static void compareAll(String where, Subject x, Model m) {
+        for (int what = 0; what <= 3; what++) {
+            compare(where, x, m, "many", what);
+        }
+        compare(where, x, m, "acts", 0);
+        compare(where, x, m, "acts", 1);
+        compareRows(where, x, m, "storeyAt", m.now.levels.size(), 3);
+        compareRows(where, x, m, "typeAt", m.now.thicknesses.size(), 2);
+        compareRows(where, x, m, "wallAt", m.now.walls.size(), 9);
+        compareRows(where, x, m, "openingAt", m.now.openings.size(), 2);
+    }
+
+    private static void step(String where, Subject x, Model m, int undos, int redos, boolean starting) {
+        int dice = below(100);
+        if (dice < undos) {
+            Check.same(where + "undo", called(x, "undo"), m.undo() ? 1 : 0);
+        } else if (dice < undos + redos) {
+            Check.same(where + "redo", called(x, "redo"), m.redo() ? 1 : 0);
+        } else if (dice < 80) {
+            int kind = starting ? below(2) * 2 : below(4) > 0 ? from(4, 9) : below(4);
+            if (kind == 7 && below(3) > 0) {
+                kind = 5;
+            }
+            int[] a = arguments(m.now, kind);
+            Check.same(where + ACTS[kind] + Arrays.toString(a), called(x, ACTS[kind], a), m.act(kind, a));
+        } else {
+            compareOne(where, x, m);
+        }
+    }
+
+    /**
+     * One object for all the calls that are promised of it, the 512th too.
+     * How often of a hundred calls an act is undone differs by run, so that some runs come to 200 acts
+     * and some go far back and forth.
+     */
     private static void run(int run) {
-        StoreyShapes x = new StoreyShapes();
+        Subject x = new Subject();
         Model m = new Model();
-        int undoing = run % 4 * 8;
         String where = "run " + run + ": ";
-        for (int n = 0; n < CALLS; n++) {
-            int dice = below(100);
-            if (dice < undoing) {
-                Check.same(where + "undo", x.undo() ? 1 : 0, m.undo() ? 1 : 0);
-            } else if (dice < 2 * undoing) {
-                Check.same(where + "redo", x.redo() ? 1 : 0, m.redo() ? 1 : 0);
-            } else if (dice < 80) {
-                int kind = n < 8 ? below(2) * 2 : below(4) > 0 ? from(4, 9) : below(4);
-                if (kind == 7 && below(3) > 0) {
-                    kind = 5;
-                }
-                int[] a = arguments(m.now, kind);
-                Check.same(where + "act " + kind + " " + java.util.Arrays.toString(a), called(x, kind, a), m.act(kind, a));
-            } else {
-                compareOne(where, x, m.now);
-            }
-            compareCounts(where, x, m);
+        for (int left = x.callsLeft(); left > 0; left = x.callsLeft()) {
+            int often = run % 4 * 8;
+            int phase = run % 4 == 1 ? left / 16 % 6 : 0;
+            int undos = phase == 5 ? 90 : often;
+            int redos = phase == 5 ? 5 : phase == 4 ? 70 : often;
+            step(where + (512 - left) + ": ", x, m, undos, redos, left > 504);
         }
-        compareAll(where, x, m.now);
+        compareAll(where, x, m);
     }
 
     public static void main(String[] args) {

@@ -10,8 +10,8 @@ public final class OpeningsTest {
         Check.end("OpeningsTest");
     }
 
-    private static StoreyShapes started() {
-        StoreyShapes d = new StoreyShapes();
+    private static Subject started() {
+        Subject d = new Subject();
         d.storey(0);
         d.type(10);
         d.wall(0, 0, 0, 0, 100, 0);
@@ -20,7 +20,7 @@ public final class OpeningsTest {
     }
 
     private static void openings() {
-        StoreyShapes d = started();
+        Subject d = started();
         Check.same("10: first number", d.opening(0, 0, 1), 0);
         Check.same("10: in the other", d.opening(1, 0, 60), 1);
         Check.same("10: up to the end", d.opening(0, 99, 1), 2);
@@ -33,7 +33,7 @@ public final class OpeningsTest {
     }
 
     private static void refused() {
-        StoreyShapes d = started();
+        Subject d = started();
         Check.argument("10: begins before", d, () -> d.opening(0, -1, 5));
         Check.argument("10: ends behind", d, () -> d.opening(0, 96, 5));
         Check.argument("10: begins at the end", d, () -> d.opening(0, 100, 1));
@@ -50,7 +50,7 @@ public final class OpeningsTest {
     }
 
     private static void overlaps() {
-        StoreyShapes d = started();
+        Subject d = started();
         d.opening(0, 20, 10);
         Check.state("10: the same", d, () -> d.opening(0, 20, 10));
         Check.state("10: within", d, () -> d.opening(0, 24, 2));
@@ -64,7 +64,7 @@ public final class OpeningsTest {
     }
 
     private static void sixty() {
-        StoreyShapes d = started();
+        Subject d = started();
         for (int o = 0; o < 60; o++) {
             Check.same("10: number", d.opening(o % 2, o / 2, 1), o);
         }
@@ -78,7 +78,7 @@ public final class OpeningsTest {
     }
 
     private static void manyActs() {
-        StoreyShapes d = started();
+        Subject d = started();
         d.opening(0, 0, 10);
         Check.fillHistory(d);
         Check.state("10: 200 acts", d, () -> d.opening(0, 20, 1));
@@ -86,7 +86,7 @@ public final class OpeningsTest {
     }
 
     private static void told() {
-        StoreyShapes d = started();
+        Subject d = started();
         d.opening(1, 7, 9);
         d.opening(0, 2, 3);
         Check.same("17: wall", d.openingAt(0, 0), 1);

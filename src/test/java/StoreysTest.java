@@ -12,7 +12,7 @@ public final class StoreysTest {
     }
 
     private static void storeys() {
-        StoreyShapes d = new StoreyShapes();
+        Subject d = new Subject();
         Check.same("2: first number", d.storey(-5), 0);
         Check.same("2: second number", d.storey(-4), 1);
         Check.same("2: an act each", d.acts(0), 2);
@@ -25,7 +25,7 @@ public final class StoreysTest {
     }
 
     private static void storeyBounds() {
-        StoreyShapes d = new StoreyShapes();
+        Subject d = new Subject();
         Check.argument("2: too low", d, () -> d.storey(-1001));
         Check.argument("2: far too low", d, () -> d.storey(Integer.MIN_VALUE));
         Check.argument("2: too high", d, () -> d.storey(10001));
@@ -36,7 +36,7 @@ public final class StoreysTest {
     }
 
     private static void storeyStates() {
-        StoreyShapes d = new StoreyShapes();
+        Subject d = new Subject();
         for (int s = 0; s < 6; s++) {
             Check.same("2: number", d.storey(s * 10), s);
         }
@@ -51,7 +51,7 @@ public final class StoreysTest {
     }
 
     private static void levels() {
-        StoreyShapes d = new StoreyShapes();
+        Subject d = new Subject();
         d.storey(0);
         d.storey(100);
         d.storey(200);
@@ -70,7 +70,7 @@ public final class StoreysTest {
     }
 
     private static void levelRefused() {
-        StoreyShapes d = new StoreyShapes();
+        Subject d = new Subject();
         d.storey(0);
         d.storey(100);
         d.storey(200);
@@ -90,7 +90,7 @@ public final class StoreysTest {
     }
 
     private static void told() {
-        StoreyShapes d = new StoreyShapes();
+        Subject d = new Subject();
         d.storey(-100);
         d.storey(50);
         d.type(20);
@@ -118,7 +118,7 @@ public final class StoreysTest {
     }
 
     private static void toldRefused() {
-        StoreyShapes d = new StoreyShapes();
+        Subject d = new Subject();
         d.storey(0);
         Check.argument("18: what 4", d, () -> d.storeyAt(0, 4));
         Check.argument("18: what -1", d, () -> d.storeyAt(0, -1));

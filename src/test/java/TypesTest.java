@@ -11,7 +11,7 @@ public final class TypesTest {
     }
 
     private static void types() {
-        StoreyShapes d = new StoreyShapes();
+        Subject d = new Subject();
         Check.same("4: thinnest", d.type(2), 0);
         Check.same("4: thickest", d.type(100), 1);
         Check.same("4: the same again", d.type(100), 2);
@@ -27,7 +27,7 @@ public final class TypesTest {
     }
 
     private static void typeStates() {
-        StoreyShapes d = new StoreyShapes();
+        Subject d = new Subject();
         for (int t = 0; t < 8; t++) {
             Check.same("4: number", d.type(10), t);
         }
@@ -40,7 +40,7 @@ public final class TypesTest {
     }
 
     private static void thicknesses() {
-        StoreyShapes d = new StoreyShapes();
+        Subject d = new Subject();
         d.storey(0);
         d.type(10);
         d.type(20);
@@ -60,7 +60,7 @@ public final class TypesTest {
     }
 
     private static void thicknessRefused() {
-        StoreyShapes d = new StoreyShapes();
+        Subject d = new Subject();
         Check.argument("5: no type yet", d, () -> d.thickness(0, 10));
         d.type(10);
         Check.argument("5: type 1", d, () -> d.thickness(1, 10));
@@ -73,7 +73,7 @@ public final class TypesTest {
     }
 
     private static void told() {
-        StoreyShapes d = new StoreyShapes();
+        Subject d = new Subject();
         d.storey(0);
         d.storey(100);
         d.type(10);
@@ -97,7 +97,7 @@ public final class TypesTest {
     }
 
     private static void toldRefused() {
-        StoreyShapes d = new StoreyShapes();
+        Subject d = new Subject();
         d.type(10);
         Check.argument("19: what 3", d, () -> d.typeAt(0, 3));
         Check.argument("19: what -1", d, () -> d.typeAt(0, -1));

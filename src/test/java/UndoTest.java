@@ -12,7 +12,7 @@ public final class UndoTest {
     }
 
     /** Does the n-th act of a run that has every kind of them. */
-    private static void act(StoreyShapes d, int n) {
+    private static void act(Subject d, int n) {
         switch (n) {
             case 0: d.storey(0); break;
             case 1: d.type(20); break;
@@ -41,24 +41,14 @@ public final class UndoTest {
     private static void everyActThereAndBack() {
         int all = 21;
         String[] due = new String[all + 1];
-        StoreyShapes d = new StoreyShapes();
+        Subject d = new Subject();
         due[0] = Check.drawn(d);
         for (int n = 0; n < all; n++) {
             act(d, n);
             due[n + 1] = Check.drawn(d);
         }
         for (int deep = 1; deep <= all; deep++) {
-            for (int n = all; n > all - deep; n--) {
-                Check.yes("12: undo", d.undo());
-                Check.unchanged("12: act " + (n - 1) + " undone", due[n - 1], Check.drawn(d));
-            }
-            Check.same("14: done", d.acts(0), all - deep);
-            Check.same("14: undone", d.acts(1), deep);
-            for (int n = all - deep; n < all; n++) {
-                Check.yes("13: redo", d.redo());
-                Check.unchanged("13: act " + n + " done again", due[n + 1], Check.drawn(d));
-            }
-            Check.no("13: no more", d.redo());
+            thereAndBack(d.fork(), due, deep);
         }
         for (int n = 0; n < all; n++) {
             d.undo();
@@ -68,8 +58,23 @@ public final class UndoTest {
         Check.same("14: all undone", d.acts(1), all);
     }
 
+    private static void thereAndBack(Subject d, String[] due, int deep) {
+        int all = due.length - 1;
+        for (int n = all; n > all - deep; n--) {
+            Check.yes("12: undo", d.undo());
+            Check.unchanged("12: act " + (n - 1) + " undone", due[n - 1], Check.drawn(d));
+        }
+        Check.same("14: done", d.acts(0), all - deep);
+        Check.same("14: undone", d.acts(1), deep);
+        for (int n = all - deep; n < all; n++) {
+            Check.yes("13: redo", d.redo());
+            Check.unchanged("13: act " + n + " done again", due[n + 1], Check.drawn(d));
+        }
+        Check.no("13: no more", d.redo());
+    }
+
     private static void dropped() {
-        StoreyShapes d = new StoreyShapes();
+        Subject d = new Subject();
         d.type(10);
         d.thickness(0, 20);
         d.thickness(0, 30);
@@ -89,7 +94,7 @@ public final class UndoTest {
     }
 
     private static void refusedKeeps() {
-        StoreyShapes d = new StoreyShapes();
+        Subject d = new Subject();
         d.storey(0);
         d.storey(10);
         d.type(10);
@@ -113,7 +118,7 @@ public final class UndoTest {
     }
 
     private static void numbersAreFreeAgain() {
-        StoreyShapes d = new StoreyShapes();
+        Subject d = new Subject();
         d.storey(0);
         d.type(10);
         d.wall(0, 0, 0, 0, 50, 0);
@@ -131,7 +136,7 @@ public final class UndoTest {
     }
 
     private static void twoHundred() {
-        StoreyShapes d = new StoreyShapes();
+        Subject d = new Subject();
         d.type(2);
         for (int n = 1; n < 200; n++) {
             d.thickness(0, 2 + n % 40 * 2);
@@ -161,7 +166,7 @@ public final class UndoTest {
     }
 
     private static void actsRefused() {
-        StoreyShapes d = new StoreyShapes();
+        Subject d = new Subject();
         Check.argument("14: what 2", d, () -> d.acts(2));
         Check.argument("14: what -1", d, () -> d.acts(-1));
         Check.argument("15: what 4", d, () -> d.many(4));
@@ -169,7 +174,7 @@ public final class UndoTest {
     }
 
     private static void counts() {
-        StoreyShapes d = new StoreyShapes();
+        Subject d = new Subject();
         d.storey(0);
         d.type(10);
         d.type(10);

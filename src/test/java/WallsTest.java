@@ -16,8 +16,8 @@ public final class WallsTest {
     }
 
     /** Two storeys, types 10 and 20 thick. */
-    private static StoreyShapes started() {
-        StoreyShapes d = new StoreyShapes();
+    private static Subject started() {
+        Subject d = new Subject();
         d.storey(0);
         d.storey(250);
         d.type(10);
@@ -26,7 +26,7 @@ public final class WallsTest {
     }
 
     private static void walls() {
-        StoreyShapes d = started();
+        Subject d = started();
         Check.same("6: along x", d.wall(0, 0, -1000, 1000, 1000, 1000), 0);
         Check.same("6: along y", d.wall(1, 1, 3, 9, 3, 8), 1);
         Check.same("6: the same again", d.wall(1, 1, 3, 9, 3, 8), 2);
@@ -41,7 +41,7 @@ public final class WallsTest {
     }
 
     private static void wallRefused() {
-        StoreyShapes d = started();
+        Subject d = started();
         Check.argument("6: aslant", d, () -> d.wall(0, 0, 0, 0, 1, 1));
         Check.argument("6: aslant afar", d, () -> d.wall(0, 0, 0, 0, 1000, -1));
         Check.argument("6: one place", d, () -> d.wall(0, 0, 4, 4, 4, 4));
@@ -61,7 +61,7 @@ public final class WallsTest {
     }
 
     private static void wallStates() {
-        StoreyShapes d = started();
+        Subject d = started();
         for (int w = 0; w < 40; w++) {
             Check.same("6: number", d.wall(0, 0, 0, w, 10, w), w);
         }
@@ -79,7 +79,7 @@ public final class WallsTest {
     }
 
     private static void moves() {
-        StoreyShapes d = started();
+        Subject d = started();
         d.wall(0, 0, 10, 20, 40, 20);
         d.opening(0, 5, 6);
         d.move(0, -3, 7);
@@ -100,7 +100,7 @@ public final class WallsTest {
     }
 
     private static void moveRefused() {
-        StoreyShapes d = started();
+        Subject d = started();
         d.wall(0, 0, 990, 0, 980, 0);
         d.wall(0, 0, 0, -990, 0, -980);
         Check.argument("7: first place out", d, () -> d.move(0, 11, 0));
@@ -122,7 +122,7 @@ public final class WallsTest {
     }
 
     private static void retypes() {
-        StoreyShapes d = started();
+        Subject d = started();
         d.wall(0, 0, 0, 0, 50, 0);
         d.wall(0, 0, 0, 0, 0, 50);
         d.retype(0, 1);
@@ -144,7 +144,7 @@ public final class WallsTest {
     }
 
     private static void removes() {
-        StoreyShapes d = started();
+        Subject d = started();
         d.wall(0, 0, 0, 0, 50, 0);
         d.wall(0, 0, 0, 0, 0, 50);
         d.opening(0, 0, 5);
@@ -173,7 +173,7 @@ public final class WallsTest {
     }
 
     private static void told() {
-        StoreyShapes d = started();
+        Subject d = started();
         d.wall(1, 1, 30, -5, -10, -5);
         d.opening(0, 3, 7);
         d.opening(0, 10, 1);
@@ -194,7 +194,7 @@ public final class WallsTest {
     }
 
     private static void joins() {
-        StoreyShapes d = started();
+        Subject d = started();
         d.wall(0, 0, 0, 0, 100, 0);
         d.wall(0, 1, 100, 80, 100, 0);
         Check.same("16: later by the greater", d.wallAt(0, 7), 110);
@@ -215,7 +215,7 @@ public final class WallsTest {
     }
 
     private static void joinsOfSeveral() {
-        StoreyShapes d = started();
+        Subject d = started();
         d.type(100);
         d.wall(0, 0, 0, 0, 0, 30);
         d.wall(0, 2, 0, 0, 40, 0);
@@ -233,7 +233,7 @@ public final class WallsTest {
     }
 
     private static void areas() {
-        StoreyShapes d = started();
+        Subject d = started();
         d.wall(0, 0, 0, 0, 100, 0);
         d.opening(0, 0, 100);
         Check.same("16: 250 high", d.wallAt(0, 8), 100 * 250 - 100 * 200);
